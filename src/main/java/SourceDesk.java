@@ -57,7 +57,7 @@ public final class SourceDesk {
     private int trouble;
 
     public SourceDesk() {
-        listing = new Listing();
+        listing = new Listing(CODE_ROOM);
         draft = new Draft();
         written = new Characters(TEXT_ROOM);
         tree = new Tree();
@@ -200,10 +200,10 @@ public final class SourceDesk {
         private final int[] heights;
         private int size;
 
-        Listing() {
-            ops = new int[CODE_ROOM];
-            numbers = new int[CODE_ROOM];
-            heights = new int[CODE_ROOM + 1];
+        Listing(int room) {
+            ops = new int[room];
+            numbers = new int[room];
+            heights = new int[room + 1];
             size = 0;
         }
 
@@ -211,13 +211,11 @@ public final class SourceDesk {
             if (op < PUSH || op > PRINT) {
                 return false;
             }
-            return !hasNumber(op) || (a >= 0 && a <= greatestNumber(op));
+            int most = greatestNumber(op);
+            return most == NOTHING || (a >= 0 && a <= most);
         }
 
-        private static boolean hasNumber(int op) {
-            return greatestNumber(op) != NOTHING;
-        }
-
+        /** The greatest a of an op; NOTHING for ops without a. */
         private static int greatestNumber(int op) {
             switch (op) {
                 case PUSH: return GREATEST_NUMBER;
@@ -256,7 +254,7 @@ public final class SourceDesk {
         }
 
         boolean add(int op, int a) {
-            if (size >= CODE_ROOM) {
+            if (size >= ops.length) {
                 return false;
             }
             size++;
@@ -269,7 +267,7 @@ public final class SourceDesk {
                 return;
             }
             ops[p] = op;
-            numbers[p] = hasNumber(op) ? a : 0;
+            numbers[p] = greatestNumber(op) == NOTHING ? 0 : a;
             for (int i = p; i < size; i++) {
                 heights[i + 1] = heights[i] + rise(ops[i]);
             }
@@ -280,10 +278,10 @@ public final class SourceDesk {
         }
 
         void become(Listing other) {
-            size = other.size;
-            System.arraycopy(other.ops, 0, ops, 0, CODE_ROOM);
-            System.arraycopy(other.numbers, 0, numbers, 0, CODE_ROOM);
-            System.arraycopy(other.heights, 0, heights, 0, CODE_ROOM + 1);
+            size = Math.min(other.size, ops.length);
+            System.arraycopy(other.ops, 0, ops, 0, size);
+            System.arraycopy(other.numbers, 0, numbers, 0, size);
+            System.arraycopy(other.heights, 0, heights, 0, size + 1);
         }
 
         int leastWrong() {
@@ -370,7 +368,7 @@ public final class SourceDesk {
         private boolean stands;
 
         Tree() {
-            source = new Listing();
+            source = new Listing(CODE_ROOM);
             kinds = new int[TREE_ROOM];
             froms = new int[TREE_ROOM];
             marks = new int[TREE_ROOM];
@@ -666,14 +664,12 @@ public final class SourceDesk {
         private final Characters row;
         private final Listing made;
         private int at;
-        // How many INSTRUCTIONS there would be, those too many counted too.
-        private int length;
 
         Draft() {
             row = new Characters(DRAFT_ROOM);
-            made = new Listing();
+            // One more than CODE may have: a full one tells that there are too many.
+            made = new Listing(CODE_ROOM + 1);
             at = 0;
-            length = 0;
         }
 
         Characters row() {
@@ -688,9 +684,8 @@ public final class SourceDesk {
         int translate() {
             made.drop();
             at = 0;
-            length = 0;
             boolean whole = takeStatements(0) && at == row.size();
-            return whole && length <= CODE_ROOM ? NONE : at;
+            return whole && made.size() <= CODE_ROOM ? NONE : at;
         }
 
         /** Takes STATEMENTS that lie in depth others, up to the end or to the end of a block. */
@@ -724,7 +719,7 @@ public final class SourceDesk {
             if (!take('=') || !takeExpression(0) || !take(';')) {
                 return false;
             }
-            emit(STORE, variable);
+            made.add(STORE, variable);
             return true;
         }
 
@@ -733,46 +728,50 @@ public final class SourceDesk {
             if (!takeExpression(0) || !take(';')) {
                 return false;
             }
-            emit(PRINT, 0);
+            made.add(PRINT, 0);
             return true;
         }
 
         private boolean takeWhile(int depth) {
-            int begin = length;
-            at++;
-            if (!takeExpression(0)) {
+            int begin = made.size();
+            int exit = takeGuarded(depth);
+            if (exit == NOTHING) {
                 return false;
             }
-            int exit = emit(UNLESS, 0);
-            if (!takeBlock(depth)) {
-                return false;
-            }
-            emit(JUMP, begin);
-            made.set(exit, UNLESS, length);
+            made.add(JUMP, begin);
+            made.set(exit, UNLESS, made.size());
             return true;
         }
 
         /** Takes an IF or a CHOICE: which one it is shows behind the first part. */
         private boolean takeIf(int depth) {
-            at++;
-            if (!takeExpression(0)) {
-                return false;
-            }
-            int exit = emit(UNLESS, 0);
-            if (!takeBlock(depth)) {
+            int exit = takeGuarded(depth);
+            if (exit == NOTHING) {
                 return false;
             }
             if (!take(':')) {
-                made.set(exit, UNLESS, length);
+                made.set(exit, UNLESS, made.size());
                 return true;
             }
-            int leap = emit(JUMP, 0);
-            made.set(exit, UNLESS, length);
+            int leap = made.size();
+            made.add(JUMP, 0);
+            made.set(exit, UNLESS, made.size());
             if (!takeBlock(depth)) {
                 return false;
             }
-            made.set(leap, JUMP, length);
+            made.set(leap, JUMP, made.size());
             return true;
+        }
+
+        /** Takes a sign, an EXPRESSION and a block; answers the PLACE of the UNLESS between. */
+        private int takeGuarded(int depth) {
+            at++;
+            if (!takeExpression(0)) {
+                return NOTHING;
+            }
+            int exit = made.size();
+            made.add(UNLESS, 0);
+            return takeBlock(depth) ? exit : NOTHING;
         }
 
         private boolean takeBlock(int depth) {
@@ -791,13 +790,18 @@ public final class SourceDesk {
             }
             if (isVariable(c)) {
                 at++;
-                emit(LOAD, c - 'a');
+                made.add(LOAD, c - 'a');
                 return true;
             }
-            if (take('!')) {
-                return takeExpression(depth + 1) && emit(NOT, 0) >= 0;
+            return take('!') ? takeNot(depth) : take('(') && takePair(depth);
+        }
+
+        private boolean takeNot(int depth) {
+            if (!takeExpression(depth + 1)) {
+                return false;
             }
-            return take('(') && takePair(depth);
+            made.add(NOT, 0);
+            return true;
         }
 
         private boolean takePair(int depth) {
@@ -812,7 +816,7 @@ public final class SourceDesk {
             if (!takeExpression(depth + 1) || !take(')')) {
                 return false;
             }
-            emit(op, 0);
+            made.add(op, 0);
             return true;
         }
 
@@ -823,7 +827,7 @@ public final class SourceDesk {
                 number = number * 10 + row.at(at) - '0';
                 at++;
             }
-            emit(PUSH, number);
+            made.add(PUSH, number);
         }
 
         private boolean take(char c) {
@@ -832,13 +836,6 @@ public final class SourceDesk {
             }
             at++;
             return true;
-        }
-
-        /** Answers the PLACE; beyond the room of the CODE only the PLACES are counted. */
-        private int emit(int op, int a) {
-            made.add(op, a);
-            length++;
-            return length - 1;
         }
 
         private static boolean isDigit(int c) {
@@ -943,25 +940,17 @@ public final class SourceDesk {
                     print(pop());
                     break;
                 default:
-                    combine(op);
+                    int y = pop();
+                    push(combined(op, pop(), y));
             }
         }
 
-        private void combine(int op) {
-            int y = pop();
-            int x = pop();
+        private static int combined(int op, int x, int y) {
             switch (op) {
-                case ADD:
-                    push(x + y);
-                    break;
-                case SUB:
-                    push(x - y);
-                    break;
-                case MUL:
-                    push(x * y);
-                    break;
-                default:
-                    push(x < y ? 1 : 0);
+                case ADD: return x + y;
+                case SUB: return x - y;
+                case MUL: return x * y;
+                default: return x < y ? 1 : 0;
             }
         }
 

@@ -186,6 +186,9 @@ public final class DraftTest {
         faults("#!;", 2);
         faults("#a!;", 2);
         faults("#(", 2);
+        faults("#(;", 2);
+        faults("#(a;", 3);
+        faults("#(a+;", 4);
         faults("#(a", 3);
         faults("#(a+", 4);
         faults("#-1;", 1);
@@ -234,6 +237,12 @@ public final class DraftTest {
         reads("#!!!!!!!a;", "LOAD 0, NOT, NOT, NOT, NOT, NOT, NOT, NOT, PRINT");
         faults("#!!!!!!!!a;", 9);
         faults("#!!!!!!!!", 9);
+        faults("#!!!!!!!!;", 9);
+        reads("b=!!!!!!!a;", "LOAD 0, NOT, NOT, NOT, NOT, NOT, NOT, NOT, STORE 1");
+        faults("b=!!!!!!!!a;", 10);
+        reads("@!!!!!!!a{}", "LOAD 0, NOT, NOT, NOT, NOT, NOT, NOT, NOT, UNLESS 10, JUMP 0");
+        faults("@!!!!!!!!a{}", 9);
+        faults("?!!!!!!!!a{}", 9);
         faults("#!!!!!!!!!a;", 9);
         faults("#!!!!!!!(a+b);", 9);
         reads("#!!!!!!(a+b);", "LOAD 0, LOAD 1, ADD, NOT, NOT, NOT, NOT, NOT, NOT, PRINT");

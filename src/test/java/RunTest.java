@@ -189,6 +189,7 @@ public final class RunTest {
         walks("?a{#1;}:{#3;}#2;", 5, "1 2", 3);
         walks("@a{#a;a=(a-1);}#9;", 3, "3 2 1 9", 11);
         walks("@a{#a;a=(a-1);}#9;", 0, "9", 2);
+        walks("#a;".repeat(15), 8, "8" + " 8".repeat(14), 15);
         walks("b=2;@b{c=2;@c{#(b+c);c=(c-1);}b=(b-1);}", 0, "4 3 3 2", 22);
     }
 
@@ -215,6 +216,11 @@ public final class RunTest {
         Due.is("printed", desk.count(3), 0);
         Due.is("walk(0, 2)", desk.walk(6, 2), SourceDesk.STOPPED);
         Due.is("what was printed before", desk.output(0), 6);
+        desk = lifted("@a{#1;#(2+a);a=(a-1);}");
+        Due.is("many rounds", desk.walk(40, 400), 80);
+        Due.is("done", desk.count(4), 161);
+        Due.is("values", Due.outputOf(desk), "1 42 1 41 1 40 1 39 1 38 1 37 1 36 1 35 1 34 1 33");
+        Due.is("variable", desk.count(10), 0);
         desk = lifted("@a{a=(a-1);}");
         Due.is("199 rounds, 399 done", desk.walk(199, 400), 0);
         Due.is("done", desk.count(4), 399);
