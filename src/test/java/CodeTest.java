@@ -1,4 +1,4 @@
-/** Promises 1 to 6: a new object, put, change, clear, code, verify. */
+/** Promises 1 to 6: a new object, put, change, clear, code, verify; CodeEdgesTest has their edges. */
 public final class CodeTest {
     private static final int[] BARE = {3, 4, 5, 6, 7, 10};
 
@@ -6,42 +6,26 @@ public final class CodeTest {
     }
 
     public static void main(String[] args) {
-        newObject();
+        objectsAreApart();
         putTakesWhatFits();
-        putRefuses();
-        putIsFull();
         changeReplaces();
-        changeRefuses();
         clearEmpties();
         codeTells();
         heightsAreThoseOfTheRow();
-        heightsGoWrong();
-        jumpsGoWrong();
-        theLeastWrongPlaceCounts();
+        verifyFindsWrongPlaces();
         Due.end();
     }
 
-    private static void newObject() {
-        SourceDesk desk = new SourceDesk();
-        for (int what = 0; what <= 15; what++) {
-            Due.is("new: count(" + what + ")", desk.count(what), 0);
-        }
-        Due.is("new: text(-1)", desk.text(-1), 0);
-        Due.is("new: text(0)", desk.text(0), SourceDesk.NONE);
-        Due.is("new: output(0)", desk.output(0), 0);
-        Due.is("new: where()", desk.where(), SourceDesk.NONE);
-        Due.is("new: verify()", desk.verify(), SourceDesk.NONE);
-        Due.is("new: code(0, 0)", desk.code(0, 0), SourceDesk.NONE);
-        Due.is("new: code(0, 2)", desk.code(0, 2), 0);
-        Due.is("new: walk", desk.walk(0, 400), SourceDesk.NONE);
-        Due.is("new: run", desk.run(0, 0), 0);
-        Due.is("new: clear(0)", desk.clear(0), 0);
-        Due.is("new: clear(1)", desk.clear(1), 0);
+    private static void objectsAreApart() {
+        SourceDesk one = Due.deskWith("PUSH 1, PRINT");
         SourceDesk other = new SourceDesk();
-        desk.put(0, 1);
-        desk.letter('a');
-        Due.is("objects are apart: count(0)", other.count(0), 0);
-        Due.is("objects are apart: count(1)", other.count(1), 0);
+        Due.write(one, "#1;");
+        one.lift();
+        one.run(0, 400);
+        for (int what = 0; what <= 9; what++) {
+            Due.is("objects are apart: count(" + what + ")", other.count(what), 0);
+        }
+        Due.is("objects are apart: output(0)", other.output(0), 0);
     }
 
     private static void putTakesWhatFits() {
@@ -61,31 +45,6 @@ public final class CodeTest {
         }
     }
 
-    private static void putRefuses() {
-        SourceDesk desk = new SourceDesk();
-        int[][] wrong = {{-1, 0}, {11, 0}, {12, 0}, {Integer.MAX_VALUE, 0}, {Integer.MIN_VALUE, 0},
-            {0, -1}, {0, 100}, {1, -1}, {1, 6}, {2, -1}, {2, 6}, {8, -1}, {8, 31}, {9, -1}, {9, 31},
-            {0, Integer.MIN_VALUE}, {8, Integer.MAX_VALUE}};
-        for (int[] pair : wrong) {
-            Due.is("put(" + pair[0] + ", " + pair[1] + ")", desk.put(pair[0], pair[1]), SourceDesk.REFUSED);
-            Due.is("nothing came", desk.count(0), 0);
-        }
-    }
-
-    private static void putIsFull() {
-        SourceDesk desk = new SourceDesk();
-        for (int i = 1; i <= 30; i++) {
-            Due.is("put number " + i, desk.put(0, i), i);
-        }
-        Due.is("put number 31", desk.put(0, 1), SourceDesk.FULL);
-        Due.is("a wrong number is told before FULL", desk.put(0, 100), SourceDesk.REFUSED);
-        Due.is("there are 30", desk.count(0), 30);
-        Due.is("the last one stays", desk.code(29, 1), 30);
-        Due.is("HEIGHT behind 30 PUSH", desk.code(30, 2), 30);
-        Due.is("clear(0)", desk.clear(0), 30);
-        Due.is("put goes again", desk.put(0, 5), 1);
-    }
-
     private static void changeReplaces() {
         SourceDesk desk = Due.deskWith("PUSH 1, PUSH 2, ADD, PRINT");
         Due.is("change(0, 1, 5)", desk.change(0, 1, 5), true);
@@ -98,20 +57,6 @@ public final class CodeTest {
         desk.change(1, 7, 0);
         Due.is("HEIGHTS follow", desk.code(4, 2), -1);
         Due.is("change does not make more", desk.count(0), 4);
-    }
-
-    private static void changeRefuses() {
-        SourceDesk desk = Due.deskWith("PUSH 1, PRINT");
-        int[][] wrong = {{-1, 0, 0}, {2, 0, 0}, {30, 0, 0}, {Integer.MAX_VALUE, 0, 0},
-            {Integer.MIN_VALUE, 0, 0}, {0, -1, 0}, {0, 11, 0}, {0, 0, 100}, {0, 0, -1}, {0, 1, 6},
-            {0, 2, 6}, {0, 8, 31}, {0, 9, 31}, {0, 9, -1}};
-        for (int[] call : wrong) {
-            String told = "change(" + call[0] + ", " + call[1] + ", " + call[2] + ")";
-            Due.is(told, desk.change(call[0], call[1], call[2]), false);
-            Due.is("nothing changes", Due.codeOf(desk), "PUSH 1, PRINT");
-        }
-        desk.clear(0);
-        Due.is("change in empty code", desk.change(0, 0, 0), false);
     }
 
     private static void clearEmpties() {
@@ -165,57 +110,19 @@ public final class CodeTest {
         }
     }
 
-    private static void wrongAt(String code, int place) {
-        Due.is("verify() of " + code, Due.deskWith(code).verify(), place);
-    }
-
-    private static void heightsGoWrong() {
-        String seven = "PUSH 1, PUSH 1, PUSH 1, PUSH 1, PUSH 1, PUSH 1, PUSH 1";
-        String sums = ", ADD, ADD, ADD, ADD, ADD, ADD, ADD, PRINT";
-        wrongAt("", SourceDesk.NONE);
-        wrongAt(seven + ", PUSH 1" + sums, SourceDesk.NONE);
-        wrongAt(seven + ", LOAD 1" + sums, SourceDesk.NONE);
-        wrongAt(seven + ", PUSH 1, PUSH 1" + sums, 8);
-        wrongAt(seven + ", PUSH 1, LOAD 1" + sums, 8);
-        for (String op : new String[] {"ADD", "SUB", "MUL", "LESS"}) {
-            wrongAt(op, 0);
-            wrongAt("PUSH 1, " + op + ", PRINT", 1);
-            wrongAt("PUSH 1, PUSH 1, " + op + ", PRINT", SourceDesk.NONE);
-        }
-        wrongAt("NOT", 0);
-        wrongAt("PUSH 1, NOT, PRINT", SourceDesk.NONE);
-        for (String op : new String[] {"STORE 1", "PRINT", "UNLESS 0"}) {
-            wrongAt(op, 0);
-            wrongAt("PUSH 1, " + op, SourceDesk.NONE);
-            wrongAt("PUSH 1, PUSH 1, " + op, 2);
-        }
-        wrongAt("JUMP 0", SourceDesk.NONE);
-        wrongAt("PUSH 1, JUMP 0", 1);
-        wrongAt("PUSH 1", 1);
-        wrongAt("PUSH 1, PRINT, LOAD 0", 3);
-    }
-
-    private static void jumpsGoWrong() {
-        wrongAt("JUMP 1", SourceDesk.NONE);
-        wrongAt("JUMP 2", 0);
-        wrongAt("JUMP 30", 0);
-        wrongAt("PUSH 1, UNLESS 2", SourceDesk.NONE);
-        wrongAt("PUSH 1, UNLESS 3", 1);
-        wrongAt("PUSH 1, UNLESS 1", 1);
-        wrongAt("JUMP 2, PUSH 1, PRINT", 0);
-        wrongAt("JUMP 3, PUSH 1, PRINT", SourceDesk.NONE);
-        wrongAt("PUSH 1, PRINT, JUMP 1", 2);
-        wrongAt("PUSH 1, PRINT, JUMP 0", SourceDesk.NONE);
-    }
-
-    private static void theLeastWrongPlaceCounts() {
-        wrongAt("PUSH 1, PRINT, PRINT, ADD, JUMP 30", 2);
-        wrongAt("JUMP 9, NOT, PUSH 1", 0);
-        SourceDesk desk = Due.deskWith("JUMP 1");
-        desk.put(8, 3);
-        Due.is("verify()", desk.verify(), 1);
-        desk.put(8, 0);
-        Due.is("verify() of a longer code", desk.verify(), SourceDesk.NONE);
+    private static void verifyFindsWrongPlaces() {
+        SourceDesk desk = Due.deskWith("LOAD 0, UNLESS 7, LOAD 0, PUSH 1, SUB, STORE 0, JUMP 0");
+        Due.is("verify() of a loop", desk.verify(), SourceDesk.NONE);
+        desk.change(4, 7, 0);
+        Due.is("verify() with NOT for SUB", desk.verify(), 1);
+        desk.change(1, 9, 0);
+        Due.is("verify() with UNLESS 0", desk.verify(), 5);
+        desk.change(5, 3, 0);
+        Due.is("verify() with ADD for STORE", desk.verify(), 6);
+        desk.change(6, 2, 5);
+        Due.is("verify() with STORE for JUMP", desk.verify(), SourceDesk.NONE);
         Due.is("verify() is no lift", desk.where(), SourceDesk.NONE);
+        Due.is("verify() changes nothing", Due.codeOf(desk),
+            "LOAD 0, UNLESS 0, LOAD 0, PUSH 1, NOT, ADD, STORE 5");
     }
 }

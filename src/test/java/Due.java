@@ -6,11 +6,20 @@ final class Due {
     private static final String[] OPS = {
         "PUSH", "LOAD", "STORE", "ADD", "SUB", "MUL", "LESS", "NOT", "JUMP", "UNLESS", "PRINT"};
     private static final int MOST_TOLD = 50;
+    private static final String KEPT = "PUSH 77, PRINT";
 
     private static int looked = 0;
     private static int wrong = 0;
+    private static int sentences = 0;
+    private static String sentence = "";
 
     private Due() {
+    }
+
+    /** Tells the words of the document that the answers from here on are about. */
+    static void sentence(String words) {
+        sentences++;
+        sentence = "'" + words + "': ";
     }
 
     static void is(String call, long got, long want) {
@@ -32,7 +41,7 @@ final class Due {
         }
         wrong++;
         if (wrong <= MOST_TOLD) {
-            System.out.println(call + " answered " + got + ", due is " + want);
+            System.out.println(sentence + call + " answered " + got + ", due is " + want);
         }
     }
 
@@ -41,7 +50,8 @@ final class Due {
     }
 
     static void end() {
-        System.out.println(looked + " answers looked at, " + wrong + " not as due");
+        String about = sentences == 0 ? "" : " about " + sentences + " sentences";
+        System.out.println(looked + " answers" + about + " looked at, " + wrong + " not as due");
         if (wrong != 0) {
             System.exit(1);
         }
@@ -116,5 +126,53 @@ final class Due {
             told.add(String.valueOf(desk.output(k)));
         }
         return String.join(" ", told);
+    }
+
+    /** A new desk with the code and the tree of this draft. */
+    static SourceDesk lifted(String draft) {
+        SourceDesk desk = deskWithDraft(draft);
+        if (desk.read() < 0 || desk.lift() < 0) {
+            throw new IllegalArgumentException(draft);
+        }
+        return desk;
+    }
+
+    /** Looks if the code lifts to the text. */
+    static void lifts(String code, String text) {
+        SourceDesk desk = deskWith(code);
+        is("lift() of " + code, desk.lift(), text.length());
+        is("text of " + code, textOf(desk), text);
+        is("where() of " + code, desk.where(), SourceDesk.NONE);
+        is("count(2) of " + code, desk.count(2), text.length());
+        is("code stays", codeOf(desk), code);
+    }
+
+    /** Looks if the draft is read as the code. */
+    static void reads(String draft, String code) {
+        SourceDesk desk = deskWith(KEPT);
+        write(desk, draft);
+        is("read() of " + draft, desk.read(), code.isEmpty() ? 0 : code.split(",").length);
+        is("code of " + draft, codeOf(desk), code);
+        is("where() of " + draft, desk.where(), SourceDesk.NONE);
+        is("the draft stays", desk.count(1), draft.length());
+        is("its code is not wrong", desk.verify(), SourceDesk.NONE);
+    }
+
+    /** Looks if the draft is at fault at this character. */
+    static void faults(String draft, int at) {
+        SourceDesk desk = deskWith(KEPT);
+        write(desk, draft);
+        is("read() of " + draft, desk.read(), SourceDesk.FAULT);
+        is("where() of " + draft, desk.where(), at);
+        is("the code stays", codeOf(desk), KEPT);
+        is("the draft stays", desk.count(1), draft.length());
+        is("again", desk.read(), SourceDesk.FAULT);
+    }
+
+    /** Looks if a run of the code prints the values, told as "1 2 3". */
+    static void prints(String code, int x, String values) {
+        SourceDesk desk = deskWith(code);
+        is("run(" + x + ", 400) of " + code, desk.run(x, 400), values.isEmpty() ? 0 : values.split(" ").length);
+        is("output of " + code, outputOf(desk), values);
     }
 }

@@ -1,4 +1,4 @@
-/** Promises 7 to 9: lift, text, where (of lift). */
+/** Promises 7 to 9: lift, text, where (of lift); LiftEdgesTest has their edges. */
 public final class LiftTest {
     private LiftTest() {
     }
@@ -9,23 +9,10 @@ public final class LiftTest {
         branches();
         branchesInBranches();
         knots();
-        edgesOfChoices();
-        wrongBeforeKnotted();
         failedLiftEmpties();
         theTreeIsKept();
-        deepAndLong();
         textTells();
-        whereTells();
         Due.end();
-    }
-
-    private static void lifts(String code, String text) {
-        SourceDesk desk = Due.deskWith(code);
-        Due.is("lift() of " + code, desk.lift(), text.length());
-        Due.is("text of " + code, Due.textOf(desk), text);
-        Due.is("where() of " + code, desk.where(), SourceDesk.NONE);
-        Due.is("count(2) of " + code, desk.count(2), text.length());
-        Due.is("code stays", Due.codeOf(desk), code);
     }
 
     private static void fails(String code, int answer, int place) {
@@ -47,55 +34,55 @@ public final class LiftTest {
     }
 
     private static void expressions() {
-        lifts("PUSH 0, PRINT", "#0;");
-        lifts("PUSH 7, PRINT", "#7;");
-        lifts("PUSH 10, PRINT", "#10;");
-        lifts("PUSH 99, PRINT", "#99;");
+        Due.lifts("PUSH 0, PRINT", "#0;");
+        Due.lifts("PUSH 7, PRINT", "#7;");
+        Due.lifts("PUSH 10, PRINT", "#10;");
+        Due.lifts("PUSH 99, PRINT", "#99;");
         for (int v = 0; v < 6; v++) {
-            lifts("LOAD " + v + ", PRINT", "#" + (char) ('a' + v) + ";");
+            Due.lifts("LOAD " + v + ", PRINT", "#" + (char) ('a' + v) + ";");
         }
-        lifts("PUSH 1, LOAD 0, ADD, PRINT", "#(1+a);");
-        lifts("PUSH 1, LOAD 0, SUB, PRINT", "#(1-a);");
-        lifts("PUSH 1, LOAD 0, MUL, PRINT", "#(1*a);");
-        lifts("PUSH 1, LOAD 0, LESS, PRINT", "#(1<a);");
-        lifts("PUSH 1, NOT, NOT, PRINT", "#!!1;");
-        lifts("PUSH 1, PUSH 2, PUSH 3, ADD, SUB, PRINT", "#(1-(2+3));");
-        lifts("PUSH 1, PUSH 2, ADD, PUSH 3, SUB, PRINT", "#((1+2)-3);");
-        lifts("LOAD 1, NOT, LOAD 2, LOAD 3, LESS, NOT, MUL, NOT, PRINT", "#!(!b*!(c<d));");
-        lifts("LOAD 0, LOAD 1, ADD, LOAD 2, LOAD 3, SUB, MUL, LOAD 4, LESS, PRINT", "#(((a+b)*(c-d))<e);");
+        Due.lifts("PUSH 1, LOAD 0, ADD, PRINT", "#(1+a);");
+        Due.lifts("PUSH 1, LOAD 0, SUB, PRINT", "#(1-a);");
+        Due.lifts("PUSH 1, LOAD 0, MUL, PRINT", "#(1*a);");
+        Due.lifts("PUSH 1, LOAD 0, LESS, PRINT", "#(1<a);");
+        Due.lifts("PUSH 1, NOT, NOT, PRINT", "#!!1;");
+        Due.lifts("PUSH 1, PUSH 2, PUSH 3, ADD, SUB, PRINT", "#(1-(2+3));");
+        Due.lifts("PUSH 1, PUSH 2, ADD, PUSH 3, SUB, PRINT", "#((1+2)-3);");
+        Due.lifts("LOAD 1, NOT, LOAD 2, LOAD 3, LESS, NOT, MUL, NOT, PRINT", "#!(!b*!(c<d));");
+        Due.lifts("LOAD 0, LOAD 1, ADD, LOAD 2, LOAD 3, SUB, MUL, LOAD 4, LESS, PRINT", "#(((a+b)*(c-d))<e);");
     }
 
     private static void statements() {
-        lifts("", "");
+        Due.lifts("", "");
         for (int v = 0; v < 6; v++) {
-            lifts("PUSH 5, STORE " + v, (char) ('a' + v) + "=5;");
+            Due.lifts("PUSH 5, STORE " + v, (char) ('a' + v) + "=5;");
         }
-        lifts("PUSH 5, STORE 1, LOAD 1, PRINT, PUSH 6, STORE 0", "b=5;#b;a=6;");
+        Due.lifts("PUSH 5, STORE 1, LOAD 1, PRINT, PUSH 6, STORE 0", "b=5;#b;a=6;");
     }
 
     private static void branches() {
-        lifts("LOAD 0, UNLESS 2", "?a{}");
-        lifts("LOAD 0, UNLESS 4, LOAD 1, PRINT", "?a{#b;}");
-        lifts("LOAD 0, UNLESS 4, LOAD 1, PRINT, LOAD 2, PRINT", "?a{#b;}#c;");
-        lifts("LOAD 0, UNLESS 3, JUMP 0", "@a{}");
-        lifts("LOAD 0, UNLESS 5, LOAD 1, PRINT, JUMP 0", "@a{#b;}");
-        lifts("LOAD 2, PRINT, LOAD 0, UNLESS 7, LOAD 1, PRINT, JUMP 2, LOAD 3, PRINT", "#c;@a{#b;}#d;");
-        lifts("LOAD 0, UNLESS 3, JUMP 3", "?a{}:{}");
-        lifts("LOAD 0, UNLESS 5, LOAD 1, PRINT, JUMP 7, LOAD 2, PRINT, LOAD 3, PRINT", "?a{#b;}:{#c;}#d;");
-        lifts("LOAD 0, UNLESS 3, JUMP 5, LOAD 2, PRINT", "?a{}:{#c;}");
-        lifts("LOAD 0, UNLESS 5, LOAD 1, PRINT, JUMP 5, LOAD 2, PRINT", "?a{#b;}:{}#c;");
-        lifts("LOAD 0, LOAD 1, LESS, NOT, UNLESS 6, JUMP 0", "@!(a<b){}");
+        Due.lifts("LOAD 0, UNLESS 2", "?a{}");
+        Due.lifts("LOAD 0, UNLESS 4, LOAD 1, PRINT", "?a{#b;}");
+        Due.lifts("LOAD 0, UNLESS 4, LOAD 1, PRINT, LOAD 2, PRINT", "?a{#b;}#c;");
+        Due.lifts("LOAD 0, UNLESS 3, JUMP 0", "@a{}");
+        Due.lifts("LOAD 0, UNLESS 5, LOAD 1, PRINT, JUMP 0", "@a{#b;}");
+        Due.lifts("LOAD 2, PRINT, LOAD 0, UNLESS 7, LOAD 1, PRINT, JUMP 2, LOAD 3, PRINT", "#c;@a{#b;}#d;");
+        Due.lifts("LOAD 0, UNLESS 3, JUMP 3", "?a{}:{}");
+        Due.lifts("LOAD 0, UNLESS 5, LOAD 1, PRINT, JUMP 7, LOAD 2, PRINT, LOAD 3, PRINT", "?a{#b;}:{#c;}#d;");
+        Due.lifts("LOAD 0, UNLESS 3, JUMP 5, LOAD 2, PRINT", "?a{}:{#c;}");
+        Due.lifts("LOAD 0, UNLESS 5, LOAD 1, PRINT, JUMP 5, LOAD 2, PRINT", "?a{#b;}:{}#c;");
+        Due.lifts("LOAD 0, LOAD 1, LESS, NOT, UNLESS 6, JUMP 0", "@!(a<b){}");
     }
 
     private static void branchesInBranches() {
-        lifts("LOAD 0, UNLESS 6, LOAD 1, UNLESS 6, LOAD 2, PRINT", "?a{?b{#c;}}");
-        lifts("LOAD 0, UNLESS 5, LOAD 1, UNLESS 5, JUMP 2", "?a{@b{}}");
-        lifts("LOAD 0, UNLESS 5, LOAD 1, UNLESS 4, JUMP 0", "@a{?b{}}");
-        lifts("LOAD 0, UNLESS 6, LOAD 1, UNLESS 5, JUMP 2, JUMP 0", "@a{@b{}}");
-        lifts("LOAD 0, UNLESS 6, LOAD 1, UNLESS 5, JUMP 2, JUMP 6", "?a{@b{}}:{}");
-        lifts("LOAD 0, UNLESS 6, LOAD 1, UNLESS 5, JUMP 5, JUMP 0", "@a{?b{}:{}}");
-        lifts("LOAD 0, UNLESS 3, JUMP 8, LOAD 1, UNLESS 6, JUMP 8, LOAD 2, PRINT", "?a{}:{?b{}:{#c;}}");
-        lifts("LOAD 0, UNLESS 9, LOAD 1, UNLESS 6, LOAD 2, PRINT, LOAD 3, PRINT, JUMP 11, LOAD 4, PRINT, "
+        Due.lifts("LOAD 0, UNLESS 6, LOAD 1, UNLESS 6, LOAD 2, PRINT", "?a{?b{#c;}}");
+        Due.lifts("LOAD 0, UNLESS 5, LOAD 1, UNLESS 5, JUMP 2", "?a{@b{}}");
+        Due.lifts("LOAD 0, UNLESS 5, LOAD 1, UNLESS 4, JUMP 0", "@a{?b{}}");
+        Due.lifts("LOAD 0, UNLESS 6, LOAD 1, UNLESS 5, JUMP 2, JUMP 0", "@a{@b{}}");
+        Due.lifts("LOAD 0, UNLESS 6, LOAD 1, UNLESS 5, JUMP 2, JUMP 6", "?a{@b{}}:{}");
+        Due.lifts("LOAD 0, UNLESS 6, LOAD 1, UNLESS 5, JUMP 5, JUMP 0", "@a{?b{}:{}}");
+        Due.lifts("LOAD 0, UNLESS 3, JUMP 8, LOAD 1, UNLESS 6, JUMP 8, LOAD 2, PRINT", "?a{}:{?b{}:{#c;}}");
+        Due.lifts("LOAD 0, UNLESS 9, LOAD 1, UNLESS 6, LOAD 2, PRINT, LOAD 3, PRINT, JUMP 11, LOAD 4, PRINT, "
             + "LOAD 5, PRINT", "?a{?b{#c;}#d;}:{#e;}#f;");
     }
 
@@ -122,26 +109,6 @@ public final class LiftTest {
         knottedAt("LOAD 0, UNLESS 3, JUMP 4, JUMP 0", 3);
         knottedAt("LOAD 0, UNLESS 3, JUMP 5, LOAD 1, UNLESS 7, LOAD 2, PRINT", 4);
         knottedAt("LOAD 0, UNLESS 3, JUMP 3, JUMP 3", 3);
-    }
-
-    private static void edgesOfChoices() {
-        // A CHOICE may go to the end of the part that it lies in, not beyond.
-        lifts("LOAD 0, UNLESS 6, LOAD 1, UNLESS 5, JUMP 5, JUMP 0", "@a{?b{}:{}}");
-        knottedAt("LOAD 0, UNLESS 6, LOAD 1, UNLESS 5, JUMP 6, JUMP 0", 4);
-        // The JUMP behind the inner part is taken for that of the outer one, which comes first.
-        knottedAt("LOAD 0, UNLESS 7, LOAD 1, UNLESS 7, LOAD 2, PRINT, JUMP 7", 3);
-        SourceDesk desk = Due.deskWithDraft("?a{?b{#c;}:{}}");
-        Due.is("read()", desk.read(), 7);
-        Due.is("lift()", desk.lift(), SourceDesk.KNOTTED);
-        Due.is("where()", desk.where(), 3);
-    }
-
-    private static void wrongBeforeKnotted() {
-        fails("PUSH 1", SourceDesk.WRONG, 1);
-        fails("PRINT", SourceDesk.WRONG, 0);
-        fails("JUMP 0, PUSH 1", SourceDesk.WRONG, 2);
-        fails("JUMP 0, JUMP 3", SourceDesk.WRONG, 1);
-        fails("PUSH 1, UNLESS 0, ADD", SourceDesk.WRONG, 2);
     }
 
     private static void failedLiftEmpties() {
@@ -182,50 +149,6 @@ public final class LiftTest {
         Due.is("walk behind it", desk.walk(7, 400), 2);
     }
 
-    private static void deepAndLong() {
-        String ifs = "PUSH 1, UNLESS 30, ".repeat(15);
-        lifts(ifs.substring(0, ifs.length() - 2), "?1{".repeat(15) + "}".repeat(15));
-        SourceDesk deep = Due.deskWith(ifs);
-        deep.lift();
-        Due.is("deep: statements", deep.count(5), 15);
-        Due.is("deep: ifs", deep.count(7), 15);
-        Due.is("deep: how deep", deep.count(9), 15);
-        Due.is("deep: walk", deep.walk(0, 15), 0);
-        Due.is("deep: done", deep.count(4), 15);
-        Due.is("deep: walk, one less", deep.walk(0, 14), SourceDesk.STOPPED);
-        Due.is("deep: copy()", deep.copy(), 60);
-        Due.is("deep: read()", deep.read(), SourceDesk.FAULT);
-        Due.is("deep: where()", deep.where(), 18);
-        lifts("PUSH 1" + ", NOT".repeat(28) + ", PRINT", "#" + "!".repeat(28) + "1;");
-        String sum = "PUSH 99, PUSH 99, ADD" + ", PUSH 99, ADD".repeat(13) + ", PRINT";
-        lifts(sum, "#" + "(".repeat(14) + "99" + "+99)".repeat(14) + ";");
-        String right = "LOAD 0, LOAD 1, LOAD 2, LOAD 3, LOAD 4, LOAD 5, PUSH 6, PUSH 7" + ", SUB".repeat(7);
-        lifts(right + ", PRINT", "#(a-(b-(c-(d-(e-(f-(6-7)))))));");
-        longRow();
-    }
-
-    private static void longRow() {
-        StringBuilder code = new StringBuilder();
-        for (int i = 0; i < 10; i++) {
-            int behind = 3 * i + 3;
-            code.append(i == 0 ? "" : ", ").append("PUSH 99, UNLESS ").append(behind).append(", JUMP ").append(behind);
-        }
-        lifts(code.toString(), "?99{}:{}".repeat(10));
-        SourceDesk desk = Due.deskWith(code.toString());
-        desk.lift();
-        Due.is("long: choices", desk.count(8), 10);
-        Due.is("long: ifs", desk.count(7), 0);
-        Due.is("long: how deep", desk.count(9), 1);
-        Due.is("long: copy()", desk.copy(), 80);
-        Due.is("long: read()", desk.read(), 30);
-        Due.is("long: the same code", Due.codeOf(desk), code.toString());
-        StringBuilder row = new StringBuilder("PUSH 1, PRINT");
-        for (int i = 0; i < 14; i++) {
-            row.append(", PUSH 1, PRINT");
-        }
-        lifts(row.toString(), "#1;".repeat(15));
-    }
-
     private static void textTells() {
         SourceDesk desk = Due.deskWith("PUSH 12, STORE 4");
         desk.lift();
@@ -243,35 +166,5 @@ public final class LiftTest {
         Due.is("nothing is left of the longer one", desk.text(3), SourceDesk.NONE);
         desk.lift();
         Due.is("lift again", Due.textOf(desk), "#1;");
-    }
-
-    private static void whereTells() {
-        SourceDesk desk = Due.deskWith("PUSH 1, UNLESS 0");
-        Due.is("before any lift", desk.where(), SourceDesk.NONE);
-        desk.lift();
-        Due.is("where it is knotted", desk.where(), 1);
-        desk.clear(0);
-        desk.verify();
-        desk.walk(0, 0);
-        desk.run(0, 0);
-        desk.copy();
-        Due.is("it stays", desk.where(), 1);
-        desk.put(10, 0);
-        desk.lift();
-        Due.is("where it is wrong", desk.where(), 0);
-        Due.write(desk, "#1;#");
-        desk.read();
-        Due.is("where the draft is at fault", desk.where(), 4);
-        desk.clear(1);
-        Due.is("it stays", desk.where(), 4);
-        desk.lift();
-        Due.is("the later one counts", desk.where(), 0);
-        desk.read();
-        Due.is("a good read", desk.where(), SourceDesk.NONE);
-        desk.put(8, 0);
-        desk.lift();
-        desk.clear(0);
-        desk.lift();
-        Due.is("a good lift", desk.where(), SourceDesk.NONE);
     }
 }
