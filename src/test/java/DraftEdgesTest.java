@@ -192,6 +192,7 @@ public final class DraftEdgesTest {
             if ("!(abcdef0123456789".indexOf(c) < 0) {
                 Due.faults("#" + c + ";", 1);
                 Due.faults("#!" + c + ";", 2);
+                Due.faults("#(" + c + "+a);", 2);
                 Due.faults("#(a+" + c + ");", 4);
             }
             if ("+-*<".indexOf(c) < 0) {
@@ -368,6 +369,10 @@ public final class DraftEdgesTest {
         Due.is("read() of 30", desk.read(), 30);
         Due.is("the CODE is full", desk.put(0, 0), SourceDesk.FULL);
         Due.is("HEIGHT before PLACE 30", desk.code(30, 2), 0);
+        Due.load(desk, "PUSH 1, PUSH 1, PUSH 1");
+        Due.write(desk, "#1;");
+        desk.read();
+        Due.is("nothing is left of the HEIGHTS before", desk.code(2, 2), 0);
         Due.write(desk, "#2;");
         Due.is("read() of a short one", desk.read(), 2);
         Due.is("nothing is left of the 30", desk.code(2, 0), SourceDesk.NONE);

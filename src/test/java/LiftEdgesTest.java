@@ -69,6 +69,8 @@ public final class LiftEdgesTest {
             "#" + "(".repeat(14) + "99" + "+99)".repeat(14) + ";");
         Due.lifts("LOAD 0, LOAD 1, LOAD 2, LOAD 3, LOAD 4, LOAD 5, PUSH 6, PUSH 7" + ", SUB".repeat(7) + ", STORE 5",
             "f=(a-(b-(c-(d-(e-(f-(6-7)))))));");
+        // Each NOT is a part by itself, be it the left or the right one.
+        Due.lifts("LOAD 0, NOT, LOAD 1, NOT, NOT, MUL, LOAD 2, LOAD 3, LESS, NOT, LESS, PRINT", "#((!a*!!b)<!(c<d));");
         knottedAt("JUMP 0", 0);
     }
 
@@ -313,16 +315,18 @@ public final class LiftEdgesTest {
         Due.sentence("WRONG or KNOTTED");
         knottedAt("JUMP 0", 0);
         knottedAt("PUSH 1" + ", NOT".repeat(28) + ", UNLESS 0", 29);
-        SourceDesk desk = Due.deskWith("JUMP 0");
+        SourceDesk desk = Due.deskWith("PUSH 1, PRINT, JUMP 0");
         desk.lift();
         desk.change(0, 10, 0);
         desk.put(8, 0);
-        desk.verify();
+        Due.is("verify()", desk.verify(), 0);
+        desk.put(11, 0);
         desk.clear(0);
         desk.copy();
         desk.run(0, 0);
         desk.walk(0, 0);
-        Due.is("where() behind calls of others", desk.where(), 0);
+        Due.is("verify()", desk.verify(), SourceDesk.NONE);
+        Due.is("where() behind other calls", desk.where(), 2);
     }
 
     private static void whereOfTheLatest() {

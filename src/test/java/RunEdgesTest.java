@@ -41,6 +41,7 @@ public final class RunEdgesTest {
         howDeepTheyLie();
         countsOfVariables();
         countRefuses();
+        theLastCalls();
         Due.end();
     }
 
@@ -291,6 +292,8 @@ public final class RunEdgesTest {
         left.lift();
         left.walk(0, 400);
         Due.is("nothing is left on the STACK of a run before", left.output(0), 3);
+        // More rounds than the STACK has room for: nothing is left there by a STATEMENT.
+        both("@a{b=1;b=2;b=3;a=(a-1);}#a;#b;", 20, "0 3");
     }
 
     private static void whileAtItsEdges() {
@@ -607,5 +610,26 @@ public final class RunEdgesTest {
             Due.is("count(" + what + ")", desk.count(what), SourceDesk.REFUSED);
             Due.is("count(" + what + ") of a new object", new SourceDesk().count(what), SourceDesk.REFUSED);
         }
+    }
+
+    private static void theLastCalls() {
+        Due.sentence("An object is used for at most 512 calls after it has been made");
+        SourceDesk desk = new SourceDesk();
+        for (char c : "@1{#a;a=(a+1);}".toCharArray()) {
+            desk.letter(c);
+        }
+        int calls = 15;
+        for (; calls < 507; calls += 4) {
+            Due.is("read()", desk.read(), 9);
+            Due.is("lift()", desk.lift(), 15);
+            Due.is("run(0, 400)", desk.run(0, 400), SourceDesk.STOPPED);
+            Due.is("walk(0, 400)", desk.walk(0, 400), SourceDesk.STOPPED);
+        }
+        Due.is("calls so far", calls, 507);
+        Due.is("call 508", desk.read(), 9);
+        Due.is("call 509", desk.lift(), 15);
+        Due.is("call 510", desk.walk(3, 400), SourceDesk.STOPPED);
+        Due.is("call 511", desk.output(19), 22);
+        Due.is("call 512", desk.text(14), '}');
     }
 }
