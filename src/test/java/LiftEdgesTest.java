@@ -179,14 +179,27 @@ public final class LiftEdgesTest {
         Due.is("how deep", desk.count(9), 15);
         Due.is("walk(0, 15)", desk.walk(0, 15), 0);
         Due.is("walk(0, 14)", desk.walk(0, 14), SourceDesk.STOPPED);
-        StringBuilder whiles = new StringBuilder();
-        for (int i = 0; i < 10; i++) {
-            whiles.append("LOAD 0, UNLESS ").append(30 - i).append(", ");
+        Due.lifts(whiles(10, 30, ""), "@a{".repeat(10) + "}".repeat(10));
+        String deep = whiles(9, 29, "PUSH 0, STORE 0, ");
+        Due.lifts(deep, "@a{".repeat(9) + "a=0;" + "}".repeat(9));
+        desk = Due.deskWith(deep);
+        desk.lift();
+        Due.is("how deep", desk.count(9), 10);
+        Due.is("walk(1, 19)", desk.walk(1, 19), 0);
+        Due.is("walk(1, 18)", desk.walk(1, 18), SourceDesk.STOPPED);
+    }
+
+    /** So many WHILES, each in the one before, with this inmost part; the CODE has n INSTRUCTIONS. */
+    private static String whiles(int many, int n, String inmost) {
+        StringBuilder code = new StringBuilder();
+        for (int i = 0; i < many; i++) {
+            code.append("LOAD 0, UNLESS ").append(n - i).append(", ");
         }
-        for (int i = 9; i >= 0; i--) {
-            whiles.append("JUMP ").append(2 * i).append(i == 0 ? "" : ", ");
+        code.append(inmost);
+        for (int i = many - 1; i >= 0; i--) {
+            code.append("JUMP ").append(2 * i).append(i == 0 ? "" : ", ");
         }
-        Due.lifts(whiles.toString(), "@a{".repeat(10) + "}".repeat(10));
+        return code.toString();
     }
 
     private static void theFirstKnotCounts() {
