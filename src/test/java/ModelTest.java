@@ -1,9 +1,13 @@
 import java.util.Random;
 
-/** Promises 1 to 16: random runs of calls, the same each time, against the model. */
+/**
+ * Promises 1 to 16: random runs of calls, the same each time, against the model. Each object is
+ * used for 512 calls, those that only look among them.
+ */
 public final class ModelTest {
-    private static final int RUNS = 4000;
+    private static final int RUNS = 16000;
     private static final int CALLS = 512;
+    private static final int CALLS_OF_A_WHOLE_LOOK = 230;
     // How many lifts were good, wrong, knotted: a run that meets one kind alone tests little.
     private static final int[] LIFTED = new int[3];
 
@@ -23,104 +27,200 @@ public final class ModelTest {
             new ModelTest(seed).play();
         }
         System.out.println("lifts: " + LIFTED[0] + " good, " + LIFTED[1] + " wrong, " + LIFTED[2] + " knotted");
-        Due.is("good lifts are many", LIFTED[0] > RUNS, true);
-        Due.is("wrong lifts are many", LIFTED[1] > RUNS, true);
-        Due.is("knotted lifts are many", LIFTED[2] > RUNS / 2, true);
+        Due.is("good lifts are many", LIFTED[0] > RUNS / 2, true);
+        Due.is("wrong lifts are many", LIFTED[1] > RUNS / 2, true);
+        Due.is("knotted lifts are many", LIFTED[2] > RUNS / 4, true);
         Due.end();
     }
 
     private void play() {
+        int before = random.nextInt(CALLS - CALLS_OF_A_WHOLE_LOOK);
+        while (calls < before) {
+            step();
+        }
+        lookAll();
         while (calls < CALLS) {
-            switch (random.nextInt(8)) {
-                case 0: bringCode(); break;
-                case 1: bringDraft(); break;
-                case 2: aimJumps(); break;
-                case 3: change(random.nextInt(32) - 1, random.nextInt(12), random.nextInt(32)); break;
-                case 4: lift(); break;
-                case 5: lift(); copy(); read(); break;
-                case 6: runBoth(); break;
-                default: anyCall();
-            }
-            lookAll();
+            step();
         }
     }
 
-    private void due(String call, int got, int want) {
+    private void step() {
+        switch (random.nextInt(8)) {
+            case 0: bringCode(); break;
+            case 1: bringDraft(); break;
+            case 2: aimJumps(); break;
+            case 3: change(random.nextInt(32) - 1, random.nextInt(12), random.nextInt(32)); break;
+            case 4: lift(); break;
+            case 5: lift(); copy(); read(); break;
+            case 6: runBoth(); break;
+            default: anyCall();
+        }
+        lookAround();
+    }
+
+    /** Counts one more call, if the object may be used for it. */
+    private boolean may() {
+        if (calls >= CALLS) {
+            return false;
+        }
         calls++;
-        Due.is(name + call, got, want);
+        return true;
+    }
+
+    private void due(String call, int got, int want) {
+        Due.is(name + call + ", call " + calls, got, want);
     }
 
     private void put(int op, int a) {
-        due("put(" + op + ", " + a + ")", desk.put(op, a), model.put(op, a));
+        if (may()) {
+            due("put(" + op + ", " + a + ")", desk.put(op, a), model.put(op, a));
+        }
     }
 
     private void change(int p, int op, int a) {
-        calls++;
-        Due.is(name + "change(" + p + ", " + op + ", " + a + ")", desk.change(p, op, a), model.change(p, op, a));
-    }
-
-    private void letter(int c) {
-        due("letter(" + c + ")", desk.letter(c), model.letter(c));
+        if (may()) {
+            boolean got = desk.change(p, op, a);
+            due("change(" + p + ", " + op + ", " + a + ")", got ? 1 : 0, model.change(p, op, a) ? 1 : 0);
+        }
     }
 
     private void clear(int what) {
-        due("clear(" + what + ")", desk.clear(what), model.clear(what));
+        if (may()) {
+            due("clear(" + what + ")", desk.clear(what), model.clear(what));
+        }
+    }
+
+    private void code(int p, int what) {
+        if (may()) {
+            due("code(" + p + ", " + what + ")", desk.code(p, what), model.code(p, what));
+        }
+    }
+
+    private void verify() {
+        if (may()) {
+            due("verify()", desk.verify(), model.verify());
+        }
     }
 
     private void lift() {
-        int got = desk.lift();
-        due("lift()", got, model.lift());
-        LIFTED[got >= 0 ? 0 : got == SourceDesk.WRONG ? 1 : 2]++;
-        due("where()", desk.where(), model.where());
+        if (may()) {
+            int got = desk.lift();
+            due("lift()", got, model.lift());
+            LIFTED[got >= 0 ? 0 : got == SourceDesk.WRONG ? 1 : 2]++;
+        }
+        where();
+    }
+
+    private void text(int k) {
+        if (may()) {
+            due("text(" + k + ")", desk.text(k), model.text(k));
+        }
+    }
+
+    private void where() {
+        if (may()) {
+            due("where()", desk.where(), model.where());
+        }
+    }
+
+    private void letter(int c) {
+        if (may()) {
+            due("letter(" + c + ")", desk.letter(c), model.letter(c));
+        }
     }
 
     private void copy() {
-        due("copy()", desk.copy(), model.copy());
+        if (may()) {
+            due("copy()", desk.copy(), model.copy());
+        }
     }
 
     private void read() {
-        due("read()", desk.read(), model.read());
-        due("where()", desk.where(), model.where());
+        if (may()) {
+            due("read()", desk.read(), model.read());
+        }
+        where();
+    }
+
+    private void run(int x, int limit) {
+        if (may()) {
+            due("run(" + x + ", " + limit + ")", desk.run(x, limit), model.run(x, limit));
+        }
+    }
+
+    private void walk(int x, int limit) {
+        if (may()) {
+            due("walk(" + x + ", " + limit + ")", desk.walk(x, limit), model.walk(x, limit));
+        }
+    }
+
+    private void output(int k) {
+        if (may()) {
+            due("output(" + k + ")", desk.output(k), model.output(k));
+        }
+    }
+
+    private void count(int what) {
+        if (may()) {
+            due("count(" + what + ")", desk.count(what), model.count(what));
+        }
     }
 
     private void runBoth() {
         int x = random.nextInt(4) == 0 ? random.nextInt() : random.nextInt(9) - 2;
-        int most = random.nextInt(3) == 0 ? random.nextInt(30) : random.nextInt(404) - 1;
-        due("run(" + x + ", " + most + ")", desk.run(x, most), model.run(x, most));
-        lookAll();
-        due("walk(" + x + ", " + most + ")", desk.walk(x, most), model.walk(x, most));
+        int limit = random.nextInt(3) == 0 ? random.nextInt(30) : random.nextInt(404) - 1;
+        run(x, limit);
+        lookAtRun();
+        walk(x, limit);
+        lookAtRun();
+    }
+
+    private void lookAtRun() {
+        count(3);
+        count(4);
+        count(10 + random.nextInt(6));
+        output(random.nextInt(4));
+        output(random.nextInt(22));
     }
 
     private void anyCall() {
-        int k = random.nextInt(40) - 4;
-        switch (random.nextInt(6)) {
+        switch (random.nextInt(3)) {
             case 0: put(random.nextInt(13) - 1, random.nextInt(102) - 1); break;
             case 1: letter(random.nextInt(100) + 30); break;
-            case 2: clear(k); break;
-            case 3: due("code", desk.code(k, k & 3), model.code(k, k & 3)); break;
-            case 4: due("count", desk.count(k), model.count(k)); break;
-            default: due("output", desk.output(k), model.output(k));
+            default: clear(random.nextInt(4) - 1);
         }
     }
 
-    /** Whatever can be looked at; it changes nothing, so it does not count as a call. */
+    private void lookAround() {
+        for (int i = 0; i < 5; i++) {
+            switch (random.nextInt(6)) {
+                case 0: count(random.nextInt(18) - 1); break;
+                case 1: code(random.nextInt(33) - 1, random.nextInt(5) - 1); break;
+                case 2: text(random.nextInt(model.count(2) + 3) - 2); break;
+                case 3: output(random.nextInt(23) - 1); break;
+                case 4: verify(); break;
+                default: where();
+            }
+        }
+    }
+
     private void lookAll() {
         for (int what = -1; what <= 16; what++) {
-            Due.is(name + "count(" + what + ")", desk.count(what), model.count(what));
+            count(what);
         }
         for (int p = -1; p <= 31; p++) {
             for (int what = 0; what <= 2; what++) {
-                Due.is(name + "code(" + p + ", " + what + ")", desk.code(p, what), model.code(p, what));
+                code(p, what);
             }
         }
         for (int k = -2; k <= model.count(2); k++) {
-            Due.is(name + "text(" + k + ")", desk.text(k), model.text(k));
+            text(k);
         }
         for (int k = -1; k <= 21; k++) {
-            Due.is(name + "output(" + k + ")", desk.output(k), model.output(k));
+            output(k);
         }
-        Due.is(name + "verify()", desk.verify(), model.verify());
-        Due.is(name + "where()", desk.where(), model.where());
+        verify();
+        where();
     }
 
     /** Code of whole statements, with jumps to any place. */
